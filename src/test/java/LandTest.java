@@ -157,6 +157,10 @@ final class LandTest {
         due("until they are full", x.bells(2, 0, 4), 3);
         due("six bells", x.count(0), 6);
         due("when they are full", x.bells(2, 12, 1), 0);
+        BellGround y = new BellGround();
+        Check.bytes(y, 5, 0, 0, 1, 0, 1, 0, 2, 0, 2, 0, 3, 0, 3, 0, 4, 0, 4, 0, 5, 0, 24, 9, 6, 1);
+        due("six, to the end of the row", y.bells(5, 0, 6), 6);
+        due("the last depth", y.of(5, 12), 6);
     }
 
     private static void rowsThatEnd() {

@@ -21,6 +21,7 @@ final class LawTest {
         faults();
         openOnes();
         faultsLeaveTheLaw();
+        textAfterText();
         longTexts();
         CHECK.end();
     }
@@ -175,6 +176,12 @@ final class LawTest {
         gives("0?99;d>1?d*20;g", 40);
         gives("d>2?99;g=1&q=5?z*s+w;50", 46);
         gives("1?0;9", 0);
+        gives("1?0|3", 1);
+        gives("0|1?0|3;5", 1);
+        gives("1?((((((9))))))", 9);
+        gives("((((((1))))))?9", 9);
+        gives("0?1;((((((8))))))", 8);
+        gives("0?1;0|2", 1);
         gives("!w?1;f?2+3*4;3", 14);
     }
 
@@ -249,6 +256,17 @@ final class LawTest {
         faulty("-(-(-(-5", 6);
         gives("((1)+(((((4))))))", 5);
         faulty("((1)+((((((4)))))))", 10);
+    }
+
+    /** Nothing of one text is left for the next. */
+    private static void textAfterText() {
+        BellGround x = ground();
+        String[] texts = {"1+2*3", "9", "0?5", "-(1-8)", "d+", "", "(d", "8"};
+        int[] loud = {7, 9, 0, 7, 7, 7, 7, 8};
+        for (int k = 0; k < texts.length; k++) {
+            Check.tell(x, texts[k]);
+            due("by " + texts[k] + " after others", x.hum(0, 301, 4), loud[k]);
+        }
     }
 
     private static void faultsLeaveTheLaw() {

@@ -50,6 +50,13 @@ final class LinksTest {
         x.mend(0, 5, 6);
         due("by a worse ear: 1", x.shows(1), 0);
         due("by a worse ear: 2", x.shows(2), 1);
+        x.bell(4, 300);
+        x.bell(3, 400);
+        Check.tell(x, "d*2");
+        x.mend(0, 5, 5);
+        due("3 is four off 0", x.shows(30) + x.shows(3), 2);
+        due("4 is one off 2", x.shows(42) + x.shows(24), 0);
+        due("4 is three off 0", x.shows(40), 1);
         Check.tell(x, "g?99;0");
         due("one lies at the bell: no way to it", x.shows(1), 0);
         Check.tell(x, "s*5");
@@ -84,6 +91,8 @@ final class LinksTest {
         due("without bells", x.shows(1), BellGround.BAD);
         x.bell(0, 0);
         x.bell(1, 0);
+        Check.tell(x, "d*9");
+        due("shows(10)", x.shows(10), 1);
         int[] wrong = {0, 11, 2, 20, 12, 21, 9, -1, -10, 101, 100, Integer.MIN_VALUE, Integer.MAX_VALUE};
         for (int ab : wrong) {
             due("shows(" + ab + ")", x.shows(ab), BellGround.BAD);
@@ -99,6 +108,12 @@ final class LinksTest {
         due("of 3: nothing more", x.chain(8), 8);
         due("of 0 and 3", x.chain(9), 11);
         due("of all", x.chain(15), 15);
+        x.mend(0, 5, 10);
+        due("by a worse ear", x.chain(5), 5);
+        due("none to strike", x.strikes(5, 0), 0);
+        due("all are sources", x.source(), 15);
+        x.undo();
+        due("by the better one", x.chain(4), 15);
     }
 
     private static void fewestStrikes() {

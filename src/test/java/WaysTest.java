@@ -13,6 +13,7 @@ final class WaysTest {
         allWays();
         waysByNotes();
         waysByPlaces();
+        waysInTheWidestLand();
         waysByTheGuess();
         waysByEarAndMost();
         bellsThereAreNoneOfIt();
@@ -84,11 +85,40 @@ final class WaysTest {
         y.hearing(2, 0, 10);
         due("one off the strike", y.ways(1, 0), 10);
         due("10 of them", y.ways(1, -1), 10);
+        BellGround far = ground(3, "d*10");
+        far.hearing(102, 0, 20);
+        due("two off the strike", far.ways(1, 0), 0);
+        far.hearing(502, 1, 10);
+        due("not one off, too", far.ways(1, -1), 0);
         BellGround z = ground(3, "s*10");
         z.mend(1, 0, 4);
         z.hearing(0, 0, 40);
         due("by its soil", z.ways(1, 0), 10);
         due("10 of them", z.ways(1, -1), 10);
+    }
+
+    private static void waysInTheWidestLand() {
+        BellGround x = ground(5, "d*9+(q=9)");
+        x.land(55);
+        x.hearing(24, 0, 73);
+        x.hearing(924, 0, 72);
+        x.hearing(4, 0, 37);
+        due("note 9 in the first cell", x.ways(1, -1), 1);
+        due("it is there", x.ways(1, 0), 9);
+        x.forget();
+        x.forget();
+        x.forget();
+        x.hearing(0, 0, 73);
+        x.hearing(900, 0, 72);
+        x.hearing(0, 0, 73);
+        due("note 9 in the last cell", x.ways(1, -1), 1);
+        due("the last of all", x.ways(1, 0), 249);
+        due("nobody lies", x.liars(1), 0);
+        due("dig there", x.dig(1), 24);
+        // FARS that are 8 together: 1 + 4 + 9 + 16 + 10 pairs of cells; one of note 9, the other of 1 to 8
+        due("of two", x.ways(2, -1), 40 * 16);
+        due("note 1 in the first cell", x.ways(2, 0), 1);
+        due("and note 9 in the last", x.ways(2, 1), 249);
     }
 
     private static void waysByTheGuess() {
@@ -250,6 +280,21 @@ final class WaysTest {
         w.mend(0, 5, 99);
         due("nothing is heard", w.next(0, 1), 20);
         due("of like ones the first", w.next(0, 0), 0);
+        BellGround u = ground(2, "0");
+        u.land(55);
+        due("all are alike", u.next(24, 1), 250);
+        due("of like ones the first", u.next(24, 0), 0);
+        Check.tell(u, "99");
+        due("as loud as can be", u.next(0, 1), 250);
+        Check.tell(u, "d*9+q");
+        due("from the corner: far ones overlap", u.next(12, 0), 0);
+        due("0 to 8 off it: 5 cells 4 off, 4 cells 3 and 5 off: q 0 of 5, or 9 of 4", u.next(12, 1), 9);
+        u.hearing(24, 0, 72);
+        due("q 0 in cell 0, or 9 near it", u.ways(1, -1), 3);
+        due("at once after a hearing", u.next(0, 1), 1);
+        BellGround t = ground(5, "(d=2)*30");
+        due("from the middle: 2 cells and 3", t.next(0, 1), 30);
+        due("cell 2", t.next(0, 0), 2);
         BellGround v = ground(2, "q=1|d=0?7;0");
         v.hearing(101, 0, 7);
         due("note 0, 2 in cell 0, all in cell 1", v.ways(1, -1), 12);
@@ -283,6 +328,19 @@ final class WaysTest {
         due("for two bells, too", x.liars(2), 2);
         x.hearing(0, 1, 99);
         due("and one that can't be", x.liars(1), 10);
+        BellGround w = ground(2, "q");
+        w.hearing(0, 0, 3);
+        w.hearing(0, 0, 2);
+        due("of two the least bits, though note 2 comes ahead", w.liars(1), 1);
+        BellGround v = ground(2, "g*10+q");
+        v.hearing(0, 0, 0);
+        due("the very first set is so", v.liars(1), 0);
+        v.forget();
+        v.hearing(0, 0, 19);
+        due("the very last set is so", v.liars(1), 0);
+        v.hearing(0, 1, 9);
+        v.hearing(0, 1, 28);
+        due("of two: notes 9 and 9 are so but for one", v.liars(2), 3);
         BellGround y = new BellGround();
         y.land(11);
         y.hearing(0, 0, 99);

@@ -71,12 +71,19 @@ final class YearsTest {
         go(1, 30, new int[] {9, 0, 0, 0}, noughts, new int[] {9, 9, 9}, new int[] {9, 9, 9, 9});
         go(Integer.MAX_VALUE, 30, new int[] {1, 5, 5, 5}, noughts, new int[] {7, 6, 2}, new int[] {2, 2, 8, 5});
         go(Integer.MIN_VALUE, 7, new int[] {2, 5, 5, 5}, noughts, new int[] {6, 7, 4}, new int[] {1, 0, 1, 0});
+        go(1, 30, new int[] {0, 0, 0, 0}, threes, new int[] {0, 0, 0}, threes);
         go(0, 1, new int[] {9}, threes, new int[0], new int[] {4, 4, 4, 4});
         go(99, 30, new int[] {0}, threes, new int[0], threes);
         BellGround x = ground(0, new int[] {9, 9, 9}, threes);
         x.dug(0, 9);
         due("a found bell, too", x.years(1, 30), 11);
         due("its depth", x.of(0, 12), 3);
+        BellGround y = new BellGround();
+        for (int b = 0; b < 6; b++) {
+            y.bell(b, 10 * b);
+        }
+        y.mend(0, 3, 9);
+        due("six bells go down", y.years(3, 30), 54);
     }
 
     private static void yearsAreNoChanges() {
@@ -345,6 +352,31 @@ final class YearsTest {
         due("one change", x.count(5), 1);
     }
 
+    private static void oldOnesAreDropped() {
+        BellGround x = new BellGround();
+        for (int cell = 0; cell < 21; cell++) {
+            x.mend(cell, 0, 9);
+            x.mend(cell, 1, 50 + cell);
+        }
+        due("forty of 42", x.count(5), 40);
+        for (int cell = 20; cell > 0; cell--) {
+            x.undo();
+            due("cost of " + cell, x.of(cell, 1), 10);
+            due("soil of " + cell + " stays yet", x.of(cell, 0), 9);
+            x.undo();
+            due("soil of " + cell, x.of(cell, 0), 3);
+        }
+        due("the first two stay", x.undo(), BellGround.STATE);
+        due("cost of 0", x.of(0, 1), 50);
+        due("soil of 0", x.of(0, 0), 9);
+        for (int cell = 1; cell < 21; cell++) {
+            x.redo();
+            due("soil of " + cell, x.of(cell, 0), 9);
+            x.redo();
+            due("cost of " + cell, x.of(cell, 1), 50 + cell);
+        }
+    }
+
     private static void fortyAreKept() {
         BellGround x = new BellGround();
         for (int k = 0; k < 43; k++) {
@@ -362,6 +394,7 @@ final class YearsTest {
             due("the ear", x.of(0, 22), 10 + k);
         }
         due("redo none", x.redo(), BellGround.STATE);
+        oldOnesAreDropped();
         x.undo();
         x.mend(24, 1, 50);
         due("another one", x.count(5), 40);
