@@ -321,11 +321,8 @@ public final class BellGround {
         }
         search.goThrough(n, Search.NONE);
         int above = search.inCell[cell];
-        if (above == 0) {
-            return part;
-        }
         int shared = commonDivisor(above, search.total);
-        if (shared == 0) {
+        if (above == 0 || shared == 0) {
             return part;
         }
         return (part == 0 ? above : search.total) / shared;
@@ -865,7 +862,9 @@ public final class BellGround {
         private boolean hasText;
         private final int[] code = new int[Tape.MOST_STEPS];
         private int codeLength;
+        // in the order of the tape's NAMES
         private final int[] names = new int[7];
+        // 7 operands within one another, at most 5 signs waiting in each: fewer than this
         private final int[] stack = new int[64];
         private int top;
 
@@ -1315,7 +1314,7 @@ public final class BellGround {
         }
     }
 
-    /** Which BELLS show which: sets of them are bits. */
+    /** Which BELLS show which: sets of them are bits. What was looked at holds for one call alone. */
     private static final class Links {
         private static final int MOST_SETS = 64, NEVER = 99;
 

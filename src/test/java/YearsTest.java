@@ -354,11 +354,12 @@ final class YearsTest {
 
     private static void oldOnesAreDropped() {
         BellGround x = new BellGround();
+        x.mend(0, 5, 6);
         for (int cell = 0; cell < 21; cell++) {
             x.mend(cell, 0, 9);
             x.mend(cell, 1, 50 + cell);
         }
-        due("forty of 42", x.count(5), 40);
+        due("forty of 43", x.count(5), 40);
         for (int cell = 20; cell > 0; cell--) {
             x.undo();
             due("cost of " + cell, x.of(cell, 1), 10);
@@ -366,7 +367,8 @@ final class YearsTest {
             x.undo();
             due("soil of " + cell, x.of(cell, 0), 3);
         }
-        due("the first two stay", x.undo(), BellGround.STATE);
+        due("the first three stay", x.undo(), BellGround.STATE);
+        due("the ear", x.of(0, 22), 6);
         due("cost of 0", x.of(0, 1), 50);
         due("soil of 0", x.of(0, 0), 9);
         for (int cell = 1; cell < 21; cell++) {
