@@ -659,7 +659,7 @@ public final class BellGround {
         private int ear = 5;
         private int guess = 3;
 
-        Land() {
+        private Land() {
             lay(MOST_SIDE, MOST_SIDE);
         }
 
@@ -868,7 +868,7 @@ public final class BellGround {
         private final int[] stack = new int[64];
         private int top;
 
-        Law(Land land) {
+        private Law(Land land) {
             this.land = land;
         }
 
@@ -990,7 +990,7 @@ public final class BellGround {
         private int foundBits;
         private int paid;
 
-        Buried(Land land, Law ruling) {
+        private Buried(Land land, Law ruling) {
             this.land = land;
             this.ruling = ruling;
         }
@@ -1138,7 +1138,7 @@ public final class BellGround {
         private int bestStrike;
         private int leastPart;
 
-        Search(Land land, Law ruling, Hearings hearings) {
+        private Search(Land land, Law ruling, Hearings hearings) {
             this.land = land;
             this.ruling = ruling;
             this.hearings = hearings;
@@ -1323,7 +1323,7 @@ public final class BellGround {
         private final int[] shown = new int[MOST_BELLS];
         private final int[] need = new int[MOST_SETS];
 
-        Links(Land land, Buried buried) {
+        private Links(Land land, Buried buried) {
             this.land = land;
             this.buried = buried;
         }

@@ -114,6 +114,7 @@ final class RulesTest {
             }
             for (Method m : c.getDeclaredMethods()) {
                 CHECK.holds("at most seven parameters: " + m, m.getParameterCount() <= 7);
+                CHECK.holds("private within: " + m, c == BellGround.class || Modifier.isPrivate(m.getModifiers()));
                 CHECK.holds("no lambda or bridge: " + m, !m.isSynthetic());
             }
         }
