@@ -18,7 +18,7 @@ public final class BellGround {
     private final Buried buried = new Buried(land, ruling);
     private final Hearings hearings = new Hearings();
     private final Search search = new Search(land, ruling, hearings);
-    private final Links links = new Links(land, buried);
+    private final Links links = new Links(ruling, buried);
     private final Changes changes = new Changes();
     private final Villages villages = new Villages();
     private final Bodies bodies = new Bodies();
@@ -1318,19 +1318,20 @@ public final class BellGround {
     private static final class Links {
         private static final int MOST_SETS = 64, NEVER = 99;
 
-        private final Land land;
+        private final Law ruling;
         private final Buried buried;
         private final int[] shown = new int[MOST_BELLS];
         private final int[] need = new int[MOST_SETS];
 
-        private Links(Land land, Buried buried) {
-            this.land = land;
+        private Links(Law ruling, Buried buried) {
+            this.ruling = ruling;
             this.buried = buried;
         }
 
+        /** HEARD is a number, and 0 is nothing heard: a bell that hums 0 is not shown, also where the EAR is 0. */
         private boolean isShownBy(int a, int b) {
             int nc = 100 * buried.note[a] + buried.cell[a];
-            return buried.humOf(b, nc, buried.cell[b]) >= land.ear;
+            return ruling.heardOf(buried.humOf(b, nc, buried.cell[b])) != 0;
         }
 
         private void lookAtAll() {

@@ -12,6 +12,7 @@ final class LinksTest {
     public static void main(String[] args) {
         oneShowsAnother();
         byEarAndKind();
+        silentBells();
         showsIsBad();
         chains();
         fewestStrikes();
@@ -84,6 +85,40 @@ final class LinksTest {
         due("each alone", x.shows(10), 1);
         x.mend(0, 5, 61);
         due("no two together", x.shows(10), 0);
+    }
+
+    private static void silentBells() {
+        // 0 shows 1 (of depth 1), 1 shows none; 2 is two off 1 and three off 0
+        BellGround x = line(0, 11, 31);
+        due("the ear as at first", x.shows(1), 1);
+        x.mend(0, 5, 0);
+        due("an ear of 0: who hums is shown", x.shows(1), 1);
+        due("who hums 0 is not", x.shows(10), 0);
+        due("who hums 0 is not, of two far ones", x.shows(2) + x.shows(20) + x.shows(12) + x.shows(21), 0);
+        due("chain of 0", x.chain(1), 3);
+        due("chain of 1", x.chain(2), 2);
+        due("chain of 2", x.chain(4), 4);
+        due("from 0 one is struck", x.strikes(1, 0), 1);
+        due("from 1 none", x.strikes(2, 0), 0);
+        due("from 1 no row", x.strikes(2, 1), 0);
+        due("both ends are needed", x.source(), 5);
+        Check.tell(x, "0");
+        due("all are silent: 0", x.chain(1), 1);
+        due("all are silent: each is needed", x.source(), 7);
+        Check.tell(x, "0-5");
+        due("below 0 is 0", x.source(), 7);
+        Check.tell(x, "1");
+        due("1 is heard", x.source(), 1);
+        BellGround y = new BellGround();
+        y.mend(0, 5, 0);
+        y.bell(0, 0);
+        y.bell(1, 1);
+        Check.tell(y, "1");
+        due("a false one hums half of 1: 0", y.shows(1), 0);
+        due("the true one hums 1", y.shows(10), 1);
+        due("the false one shows it", y.source(), 2);
+        Check.tell(y, "2");
+        due("half of 2 is heard", y.source(), 1);
     }
 
     private static void showsIsBad() {

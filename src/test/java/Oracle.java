@@ -444,7 +444,7 @@ final class Oracle {
 
     private boolean showsBell(int a, int b) {
         Bell struck = bells.get(a);
-        return humOf(bells.get(b), 100 * struck.note + struck.cell, bells.get(b).cell) >= rest[2];
+        return eared(humOf(bells.get(b), 100 * struck.note + struck.cell, bells.get(b).cell)) > 0;
     }
 
     int shows(int ab) {

@@ -133,7 +133,9 @@ final class RandomTest {
     private void mendCall() {
         int what = any(7);
         int number = what < 2 ? cell() : what == 2 ? any(oracle.count(0)) : any(1);
-        int v = what == 1 ? any(100) : what == 4 ? any(2) : what == 5 ? any(20) : any(10);
+        // what hums 0 is at the edge of an EAR of 0
+        int ear = random.nextInt(4) == 0 ? any(2) : any(20);
+        int v = what == 1 ? any(100) : what == 4 ? any(2) : what == 5 ? ear : any(10);
         due("mend(" + number + ", " + what + ", " + v + ")", x.mend(number, what, v), oracle.mend(number, what, v));
     }
 
