@@ -12,9 +12,11 @@ final class HumTest {
     public static void main(String[] args) {
         oneHums();
         eachNumberIsHeard();
+        cellsLieRowByRow();
         foundOnesHum();
         humIsBad();
         allAreHeard();
+        ninetyNineAtMost();
         theEar();
         heardIsBad();
         hearingsCome();
@@ -57,6 +59,33 @@ final class HumTest {
         x.mend(0, 4, 1);
         due("frost", x.hum(0, 405, 5), 22);
         due("rows and columns together", x.hum(0, 400, 0), 22 - 3 * 5);
+    }
+
+    private static void cellsLieRowByRow() {
+        BellGround x = new BellGround();
+        x.land(23);
+        x.bell(2, 0);
+        Check.tell(x, "d*10+g");
+        // 0 1 2
+        // 3 4 5
+        int[] far = {2, 1, 0, 3, 2, 1};
+        for (int cell = 0; cell < 6; cell++) {
+            due("struck at " + cell, x.hum(0, cell, 2), 10 * far[cell]);
+            due("heard at " + cell, x.hum(0, 2, cell), far[cell]);
+        }
+        BellGround y = new BellGround();
+        y.land(42);
+        y.bell(7, 0);
+        Check.tell(y, "d");
+        // 0 1, 2 3, 4 5, 6 7
+        int[] off = {4, 3, 3, 2, 2, 1, 1, 0};
+        for (int cell = 0; cell < 8; cell++) {
+            due("of four rows: " + cell, y.hum(0, cell, 0), off[cell]);
+        }
+        BellGround z = new BellGround();
+        z.bell(0, 0);
+        Check.tell(z, "d*10+g");
+        due("the farthest of all", z.hum(0, 24, 24), 88);
     }
 
     private static void foundOnesHum() {
@@ -103,6 +132,31 @@ final class HumTest {
         Check.tell(x, "49");
         due("98 of two", x.heard(0, 0), 98);
         due("without bells", new BellGround().heard(0, 0), 0);
+    }
+
+    private static void ninetyNineAtMost() {
+        int[] each = {16, 17, 49, 99};
+        int[] heard = {96, 99, 99, 99};
+        for (int k = 0; k < each.length; k++) {
+            BellGround x = new BellGround();
+            Check.tell(x, String.valueOf(each[k]));
+            for (int b = 0; b < 6; b++) {
+                x.bell(b, 0);
+            }
+            due("six of " + each[k], x.heard(0, 0), heard[k]);
+        }
+        BellGround x = new BellGround();
+        for (int b = 0; b < 3; b++) {
+            x.bell(b, 0);
+        }
+        Check.tell(x, "33");
+        due("three of 33: 99 in all", x.heard(0, 0), 99);
+        Check.tell(x, "33+(d=0)");
+        due("100 in all", x.heard(0, 0), 99);
+        x.mend(0, 5, 99);
+        due("what is more than 99 by the worst ear", x.heard(0, 0), 99);
+        Check.tell(x, "33-(d=0)");
+        due("98 in all by the worst ear", x.heard(0, 0), 0);
     }
 
     private static void theEar() {

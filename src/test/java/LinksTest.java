@@ -13,6 +13,7 @@ final class LinksTest {
         oneShowsAnother();
         byEarAndKind();
         silentBells();
+        eachOfSixShows();
         showsIsBad();
         chains();
         fewestStrikes();
@@ -119,6 +120,32 @@ final class LinksTest {
         due("the false one shows it", y.source(), 2);
         Check.tell(y, "2");
         due("half of 2 is heard", y.source(), 1);
+    }
+
+    private static void eachOfSixShows() {
+        BellGround x = new BellGround();
+        x.land(23);
+        for (int b = 0; b < 6; b++) {
+            x.bell(b, 0);
+        }
+        Check.tell(x, "(d=1)*9");
+        // 0 1 2
+        // 3 4 5
+        int[] nextTo = {2 + 8, 1 + 4 + 16, 2 + 32, 1 + 16, 2 + 8 + 32, 4 + 16};
+        for (int a = 0; a < 6; a++) {
+            for (int b = 0; b < 6; b++) {
+                due("shows(" + a + b + ")", x.shows(10 * a + b), a == b ? BellGround.BAD : nextTo[a] >> b & 1);
+            }
+        }
+        due("0 shows 1, 3, then 1 shows 2, 4, then 2 shows 5", x.strikes(1, 1), 123);
+        due("5 shows 2, 4, then 4 shows 1, 3, then 1 shows 0", x.strikes(32, 1), 652);
+        due("one shows all", x.source(), 1);
+        Check.tell(x, "0");
+        due("none shows another", x.source(), 63);
+        for (int set = 0; set < 64; set++) {
+            due("chain(" + set + ")", x.chain(set), set);
+            due("strikes(" + set + ", 0)", x.strikes(set, 0), 0);
+        }
     }
 
     private static void showsIsBad() {

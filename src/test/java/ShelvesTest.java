@@ -13,6 +13,7 @@ final class ShelvesTest {
     public static void main(String[] args) {
         shelvesKeep();
         rowsAreMade();
+        theLongestRows();
         rowsAreBad();
         lowestBits();
         eachItsOwn();
@@ -69,6 +70,31 @@ final class ShelvesTest {
         }
         due("a row anew", x.row(2, 3, 60), 1);
         due("is 0 anew", x.element(2, 59), 0);
+    }
+
+    private static void theLongestRows() {
+        BellGround x = new BellGround();
+        for (int shelf = 5; shelf >= 0; shelf--) {
+            due("row(" + shelf + ", 3, 60)", x.row(shelf, 3, 60), 1);
+            due("the first", x.put(shelf, 0, 100 + shelf), 1);
+            due("the last", x.put(shelf, 59, Long.MAX_VALUE - shelf), 1);
+            due("behind it", x.put(shelf, 60, 1), -13);
+        }
+        for (int shelf = 0; shelf < 6; shelf++) {
+            due("first of " + shelf, x.element(shelf, 0), 100 + shelf);
+            due("last of " + shelf, x.element(shelf, 59), Long.MAX_VALUE - shelf);
+        }
+        for (int shelf = 0; shelf < 6; shelf += 2) {
+            x.row(shelf, 0, 60);
+        }
+        for (int shelf = 0; shelf < 6; shelf++) {
+            boolean stays = shelf % 2 != 0;
+            due("first of " + shelf + " then", x.element(shelf, 0), stays ? 100 + shelf : 0);
+            due("last of " + shelf + " then", x.element(shelf, 59), stays ? Long.MAX_VALUE - shelf : 0);
+        }
+        due("all of the last but one", x.shift(1, 0, 5, 0, 60), 60);
+        due("it came", x.element(5, 59), Long.MAX_VALUE - 1);
+        due("one more", x.shift(1, 0, 5, 0, 61), -13);
     }
 
     private static void rowsAreBad() {

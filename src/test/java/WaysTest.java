@@ -15,16 +15,21 @@ final class WaysTest {
         waysByPlaces();
         waysInTheWidestLand();
         waysByTheGuess();
+        waysAsAllIsNow();
         waysByEarAndMost();
         bellsThereAreNoneOfIt();
         everyHearingCounts();
+        tenHearingsInTheWidestLand();
         noWays();
         someAreSure();
         chances();
         whereToDig();
         whichStrikeNext();
+        theLastStrikeNext();
+        nextWithoutOtherCalls();
         whatAHearingTells();
         whoLies();
+        manyLie();
         allAreBad();
         CHECK.end();
     }
@@ -138,6 +143,31 @@ final class WaysTest {
         due("wet and cold", y.ways(1, -1), 20);
     }
 
+    private static void waysAsAllIsNow() {
+        BellGround x = ground(3, "s*10");
+        x.hearing(0, 0, 40);
+        due("all soils are 3", x.ways(1, -1), 0);
+        x.mend(2, 0, 4);
+        due("4 in cell 2, told behind the hearing", x.ways(1, 0), 20);
+        due("ten notes", x.ways(1, -1), 10);
+        x.mend(2, 0, 9);
+        due("no longer", x.ways(1, -1), 0);
+        x.undo();
+        due("undone", x.ways(1, -1), 10);
+        Check.tell(x, "s*10+(g=0)");
+        due("by another law: 4 in cell 2", x.ways(1, 0), 20);
+        Check.tell(x, "40+(g=0)");
+        due("cells 1, 2 by a third", x.ways(1, -1), 20);
+        x.mend(0, 5, 41);
+        due("not by a worse ear", x.ways(1, -1), 0);
+        BellGround y = ground(1, "s*10");
+        y.hearing(0, 0, 40);
+        y.mend(0, 3, 9);
+        y.years(1, 1);
+        due("the years made it 4", y.of(0, 0), 4);
+        due("ten notes", y.ways(1, -1), 10);
+    }
+
     private static void waysByEarAndMost() {
         BellGround x = ground(3, "g*10");
         x.mend(0, 5, 15);
@@ -177,6 +207,27 @@ final class WaysTest {
         due("it alone lies", x.liars(1), 512);
         due("without it", x.told(1, 9), 2);
         due("without another", x.told(1, 0), 0);
+    }
+
+    private static void tenHearingsInTheWidestLand() {
+        BellGround x = ground(1, "d*9+q");
+        x.land(55);
+        x.bell(24, 930);
+        for (int h = 0; h < 10; h++) {
+            int nc = 100 * h + 2 * h;
+            x.hearing(nc, 24 - h, x.heard(nc, 24 - h));
+        }
+        due("it alone", x.ways(1, -1), 1);
+        due("note 9 in the last cell", x.ways(1, 0), 249);
+        due("sure", x.sure(1, 0), 1 << 24);
+        due("sure in none", x.sure(1, 1), (1 << 24) - 1);
+        due("nobody lies", x.liars(1), 0);
+        due("all are honest", x.judge(1), 1023);
+        x.forget();
+        x.hearing(0, 0, 99);
+        due("the tenth lies", x.liars(1), 512);
+        due("no way", x.ways(1, -1), 0);
+        due("one without it", x.told(1, 9), 1);
     }
 
     private static void noWays() {
@@ -303,6 +354,40 @@ final class WaysTest {
         due("by the first", v.next(1, 0), 100);
     }
 
+    private static void theLastStrikeNext() {
+        BellGround x = ground(2, "g=1?d=1&q<2;(d=1&q=9)*50");
+        x.hearing(1, 1, 1);
+        due("notes 0, 1 in cell 0", x.ways(1, -1), 2);
+        // where one lies at cell 0, only note 0 hums, and by note 9 struck at cell 1 alone
+        due("the last of all strikes", x.next(0, 0), 901);
+        due("parts them", x.next(0, 1), 1);
+        BellGround y = ground(2, "g=1?d=0&q<2;(d=1&q=9)*50");
+        y.hearing(0, 1, 1);
+        due("in cell 0, from cell 1", y.next(0, 0), 901);
+        due("where one lies at cell 1, by notes 1 and 2", y.next(1, 0), 200);
+    }
+
+    private static void nextWithoutOtherCalls() {
+        BellGround x = ground(2, "q+g*20");
+        x.hearing(0, 0, 20);
+        due("note 0 in cell 1: how great", x.next(0, 1), 1);
+        x.hearing(0, 0, 0);
+        due("no ways", x.next(0, 1), BellGround.NOT);
+        x.forget();
+        x.forget();
+        x.hearing(0, 1, 29);
+        x.hearing(0, 1, 29);
+        due("note 9 in cell 0", x.next(1, 1), 1);
+        x.mend(0, 5, 30);
+        due("no ways by a worse ear", x.next(1, 0), BellGround.NOT);
+        Check.tell(x, "29+(q=0)");
+        due("nor by another law", x.next(1, 0), BellGround.NOT);
+        x.mend(0, 5, 29);
+        // notes 1 to 9 in both cells: by note 0 they are 29 each, by note 1 those of note 1 are 30
+        due("all but two of 18", x.next(1, 1), 16);
+        due("by note 1", x.next(1, 0), 100);
+    }
+
     private static void whatAHearingTells() {
         BellGround x = ground(2, "q");
         x.hearing(0, 0, 2);
@@ -346,6 +431,24 @@ final class WaysTest {
         y.hearing(0, 0, 99);
         due("no two in one cell", y.liars(2), BellGround.NOT);
         due("one is there", y.liars(1), 1);
+    }
+
+    private static void manyLie() {
+        BellGround x = ground(2, "q");
+        for (int h = 0; h < 10; h++) {
+            x.hearing(0, 0, 99);
+            due("all of " + (h + 1) + " by one", x.liars(1), (2 << h) - 1);
+            due("all of " + (h + 1) + " by two", x.liars(2), (2 << h) - 1);
+        }
+        BellGround y = ground(2, "q");
+        int[] heard = {9, 1, 2, 3, 4, 5, 6, 7, 8, 9};
+        for (int v : heard) {
+            y.hearing(0, 0, v);
+        }
+        due("all but the two of note 9", y.liars(1), 1022 - 512);
+        due("two of notes that are 9 together: the same", y.liars(2), 1022 - 512);
+        y.forget();
+        due("one may be so: the least bits without the ninth", y.liars(1), 511 - 256);
     }
 
     private static void allAreBad() {

@@ -11,6 +11,7 @@ final class YearsTest {
 
     public static void main(String[] args) {
         yearsGoBy();
+        lotsOfYears();
         yearsAreNoChanges();
         yearsAreBad();
         cellsAreDug();
@@ -84,6 +85,31 @@ final class YearsTest {
         }
         y.mend(0, 3, 9);
         due("six bells go down", y.years(3, 30), 54);
+    }
+
+    /** One cell, one bell: each lot of 0 to 11 by each WET, at the edges of DEPTH and SOIL and within them. */
+    private static void lotsOfYears() {
+        int[] edges = {0, 1, 8, 9};
+        for (int seed = 0; seed < 60; seed++) {
+            int z = seed * 1103515245 + 12345;
+            int lot = (z >>> 8) % 12;
+            int soilLot = (z * 1103515245 + 12345 >>> 8) % 12;
+            for (int wet = 0; wet < 10; wet++) {
+                int depth = edges[(seed + wet) % 4];
+                int soil = edges[(seed + wet / 4) % 4];
+                int depthThen = lot < wet ? Math.min(depth + 1, 9) : lot == 11 ? Math.max(depth - 1, 0) : depth;
+                int soilThen = soilLot < wet ? Math.min(soil + 1, 9) : soil;
+                BellGround x = new BellGround();
+                x.land(11);
+                x.bell(0, 10 * depth);
+                x.mend(0, 0, soil);
+                x.mend(0, 3, wet);
+                String told = "lots " + lot + ", " + soilLot + ", WET " + wet;
+                due(told + ": years", x.years(seed, 1), depthThen);
+                due(told + ": depth " + depth, x.of(0, 12), depthThen);
+                due(told + ": soil " + soil, x.of(0, 0), soilThen);
+            }
+        }
     }
 
     private static void yearsAreNoChanges() {
