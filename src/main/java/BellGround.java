@@ -385,7 +385,7 @@ public final class BellGround {
         if (ab < 0 || !buried.has(a) || !buried.has(b) || a == b) {
             return BAD;
         }
-        return links.isShownBy(a, b) ? 1 : 0;
+        return links.doesShow(a, b) ? 1 : 0;
     }
 
     private boolean isBellSet(int set) {
@@ -1329,7 +1329,7 @@ public final class BellGround {
         }
 
         /** HEARD is a number, and 0 is nothing heard: a bell that hums 0 is not shown, also where the EAR is 0. */
-        private boolean isShownBy(int a, int b) {
+        private boolean doesShow(int a, int b) {
             int nc = 100 * buried.note[a] + buried.cell[a];
             return ruling.heardOf(buried.humOf(b, nc, buried.cell[b])) != 0;
         }
@@ -1338,7 +1338,7 @@ public final class BellGround {
             for (int a = 0; a < buried.count; a++) {
                 shown[a] = 0;
                 for (int b = 0; b < buried.count; b++) {
-                    if (a != b && isShownBy(a, b)) {
+                    if (a != b && doesShow(a, b)) {
                         shown[a] |= 1 << b;
                     }
                 }
